@@ -14,6 +14,7 @@ final class TextMaker {
         "not hen off when cow=1;", "wins when fox=hen foo;", "loses when 3or fox=1;"};
     private final Random random;
     private int fields;
+    private int depth = 2;
     private List<String> names;
 
     TextMaker(Random random) {
@@ -29,6 +30,7 @@ final class TextMaker {
     }
 
     String text() {
+        depth = chance(8) ? 3 + random.nextInt(6) : 2;
         return chance(60) ? livelyText() : wildText();
     }
 
@@ -98,17 +100,17 @@ final class TextMaker {
     private String rule(int i, int rules) {
         boolean moves = !names.isEmpty() && (i * 3 < rules * 2 ? chance(90) : chance(20));
         if (!moves) {
-            return one("wins", "loses") + " when " + test(2);
+            return one("wins", "loses") + " when " + test(depth);
         }
         String name = names.get(random.nextInt(names.size()));
         String way = chance(10) ? "off" : one("up", "down") + " " + (1 + random.nextInt(3));
-        return (chance(75) ? "may " : "not ") + name + " " + way + " when " + (chance(40) ? "all" : test(2));
+        return (chance(75) ? "may " : "not ") + name + " " + way + " when " + (chance(40) ? "all" : test(depth));
     }
 
     private String test(int depth) {
         int pick = random.nextInt(12);
-        if (depth == 0 || pick < 6) {
-            return sum(1) + one("<", ">", "=") + sum(1);
+        if (depth == 0 || pick < (depth > 2 ? 1 : 6)) {
+            return sum(depth > 2 ? depth : 1) + one("<", ">", "=") + sum(1);
         }
         switch (pick) {
             case 6: return test(depth - 1) + " or " + test(depth - 1);
@@ -122,7 +124,7 @@ final class TextMaker {
 
     private String sum(int depth) {
         int pick = random.nextInt(12);
-        if (depth == 0 || pick < 7) {
+        if (depth == 0 || pick < (depth > 2 ? 3 : 7)) {
             return part();
         }
         switch (pick) {
