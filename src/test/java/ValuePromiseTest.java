@@ -9,6 +9,7 @@ public final class ValuePromiseTest {
         mixedLoss();
         drawn();
         stuck();
+        lastPosition();
         worth();
         longest();
         errs();
@@ -88,6 +89,16 @@ public final class ValuePromiseTest {
         CHECK.is("promise 14: stuck wins", wins.worth(), 1);
         CHECK.is("promise 16: no move", wins.longest(), 0);
         CHECK.is("promise 14: no piece", Check.gameOf("board 2;").worth(), -1);
+    }
+
+    /** The highest number that a position can have. */
+    private static void lastPosition() {
+        SundayGame x = Check.gameOf("board 9;piece a at 0 of 2;piece b at 8 of 2;may a off when all;may b off when all;");
+        value(x, 199, -1, 0, -1);
+        value(x, 180, 1, 1, 19);
+        value(x, 16, -1, 2, 9);
+        CHECK.is("promise 13: behind the last position", x.value(200, 0), -2);
+        CHECK.is("promise 16: both go off", x.longest(), 2);
     }
 
     private static void worth() {
