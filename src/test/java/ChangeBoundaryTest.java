@@ -8,6 +8,7 @@ public final class ChangeBoundaryTest {
 
     public static void main(String[] args) {
         promise20HowMany();
+        promise20PutBack();
         promise20AnotherN();
         promise20NextPlace();
         promise20Ever();
@@ -17,10 +18,12 @@ public final class ChangeBoundaryTest {
         promise22TurnAbout();
         promise22AsItIs();
         promise22FewestWords();
+        promise22WordsOfAChange();
         promise22Others();
         promise23Made();
         promise23NoneSuch();
         promise24Latest();
+        promise24EachAsItWas();
         promise24SundayStays();
         promise24FortyAreKept();
         promise24WithoutOne();
@@ -48,6 +51,23 @@ public final class ChangeBoundaryTest {
         S.is("behind the last of the most", most.change(59), NONE);
         codes("without rules", Check.gameOf("board 5;"));
         codes("without fields", new SundayGame());
+    }
+
+    private static void promise20PutBack() {
+        S.term(20, "0 the RULE there is struck (put back, if it is struck); 1 turned about");
+        SundayGame x = Check.gameOf("board 5;piece a at 0 of 2;may a up 1 when all;");
+        codes("as told", x, 0, 1, 3, 4);
+        x.make(0);
+        codes("struck", x, 0, 1, 3, 4);
+        S.is("struck", x.rule(0, 5), 1);
+        x.make(3);
+        x.make(1);
+        S.is("struck still", x.rule(0, 5), 1);
+        S.is("N of a struck one", x.rule(0, 4), 2);
+        S.is("a struck one turned about", x.rule(0, 1), 1);
+        x.make(0);
+        S.is("put back", x.rule(0, 5), 0);
+        S.is("turned about still", x.rule(0, 1), 1);
     }
 
     private static void promise20AnotherN() {
@@ -172,6 +192,17 @@ public final class ChangeBoundaryTest {
         S.is("without rules", Check.gameOf("board 2;").turning(2), NONE);
     }
 
+    /** Three of like words: the least code; two words come behind all of one. */
+    private static void promise22WordsOfAChange() {
+        S.term(22, "WORDS of a CHANGE: 1 of 0 to 4, 2 of 5.");
+        SundayGame x = Check.gameOf("board 3;piece a at 0 of 2;ever may a up 1 when all;may a up 1 when a=0 and goal=1;"
+            + "not a up 1 when all;may a up 3 when a=0 and goal=2;");
+        S.is("places of the second and the third", x.outcome(11), 1);
+        S.is("N of the last is 2", x.outcome(21), 1);
+        S.is("no other", x.turning(0), 2);
+        S.is("that of one word", x.turning(2), 21);
+    }
+
     private static void promise22Others() {
         S.promise(22, "NONE for others, or without FIELDS");
         SundayGame x = Check.gameOf(TAKE);
@@ -237,6 +268,7 @@ public final class ChangeBoundaryTest {
         S.is("the places are as made", x.rule(0, 0), 1);
         x.undo();
         S.is("the places are as told", x.rule(0, 0), 0);
+        S.is("both places are as told", x.rule(1, 0), 1);
         S.is("N is as made", x.rule(0, 4), 2);
         x.undo();
         S.is("N is as told", x.rule(0, 4), 1);
@@ -244,6 +276,28 @@ public final class ChangeBoundaryTest {
         x.undo();
         S.is("put back", x.rule(0, 5), 0);
         S.is("none is left", x.has(6), 0);
+    }
+
+    /** The last byte of an image tells slates that are near one another apart. */
+    private static int sealOf(SundayGame x) {
+        return x.octet(x.image() - 1);
+    }
+
+    private static void promise24EachAsItWas() {
+        S.promise(24, "The latest CHANGE (by make(), sunday()) is undone");
+        SundayGame x = Check.gameOf("board 5;piece a at 0 of 2;may a up 1 when all;not a down 2 when all;wins when a=4;");
+        int[] codes = {0, 7, 5, 12, 11, 1, 13, 6};
+        int[] seals = new int[45];
+        for (int i = 0; i < seals.length; i++) {
+            seals[i] = sealOf(x);
+            S.is("made " + i, x.make(codes[i % codes.length]), true);
+            S.is("another one " + i, sealOf(x) != seals[i], true);
+        }
+        for (int i = seals.length - 1; i >= seals.length - 40; i--) {
+            S.is("undone " + i, x.undo(), true);
+            S.is("as it was ahead of " + i, sealOf(x), seals[i]);
+        }
+        S.is("the others are not kept", x.undo(), false);
     }
 
     private static void promise24SundayStays() {

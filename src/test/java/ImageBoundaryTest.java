@@ -152,7 +152,7 @@ public final class ImageBoundaryTest {
     private static void promise34True() {
         S.promise(34, "true, THE SLATE, SUNDAY, KINDS, ERRS are as it tells");
         SundayGame x = Check.gameOf(TEXT);
-        int[] image = Check.sealed(new int[] {5, 4, 3, 2, 1, 0, 2, 0, 0, 1, 2, 1, 0, 3, 2, 0, 1, 2, 2, 1, 100, 0, 0});
+        int[] image = Check.sealed(new int[] {5, 4, 3, 2, 1, 0, 2, 0, 0, 1, 2, 1, 0, 3, 2, 0, 1, 2, 2, 1, 100, 99, 0});
         S.is("taken", on(x, image), true);
         bytes("as it tells", x, image);
         S.is("rule of place 0", x.rule(0, 0), 4);
@@ -164,7 +164,7 @@ public final class ImageBoundaryTest {
         S.is("kind of 0", x.kind(0, 0), 2);
         S.is("kind of 1", x.kind(1, 0), 1);
         S.is("errs of 0", x.errs(0, 0), 100);
-        S.is("errs of 1", x.errs(1, 0), 0);
+        S.is("errs of 1", x.errs(1, 0), 99);
         S.is("as told again", on(x, Check.sealed(AS_TOLD)), true);
         bytes("as told again", x, Check.sealed(AS_TOLD));
         S.is("no refusal", x.status(5), 0);
@@ -208,6 +208,7 @@ public final class ImageBoundaryTest {
         but("rule 2 twice", 10, 2, false);
         but("rule 0 twice", 13, 0, false);
         but("no rule 5", 13, 5, false);
+        but("no rule 5 that has no N", 7, 5, false);
         but("no rule 32", 1, 32, false);
         but("no rule 255", 1, 255, false);
         but("four rules", 0, 4, false);

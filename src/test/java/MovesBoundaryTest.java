@@ -14,14 +14,20 @@ public final class MovesBoundaryTest {
         promise6Stuck();
         promise6Others();
         promise7NoneSuch();
+        promise7Letters();
         promise8NoneSuch();
         promise8WithoutPiece();
+        promise8AsItIsNow();
+        promise8Whether();
         promise9HowMany();
         promise9NoneSuch();
         promise9OwnPiecesNotOff();
         promise9GoalsAreFields();
         promise9HighestPlace();
+        promise9InOrder();
         promise9NamesAhead();
+        promise10NamesNow();
+        promise10HighestPlaceEnds();
         promise9Number();
         promise10Over();
         promise10WhoHasWon();
@@ -31,6 +37,7 @@ public final class MovesBoundaryTest {
         promise11NotLawful();
         promise11WhenOver();
         promise12HowMany();
+        promise17Codes();
         promise17FirstNotLawful();
         promise17WhenOver();
         promise17Empty();
@@ -120,6 +127,18 @@ public final class MovesBoundaryTest {
         S.is("the second went", x.letter(1, 0), NONE);
     }
 
+    private static void promise7Letters() {
+        S.promise(7, "Letter k of a PIECE's NAME, 97 .. 122");
+        String[] names = {"abcdef", "ghijkl", "mnopqr", "stuvwx", "yz"};
+        for (int i = 0; i + 1 < names.length; i++) {
+            SundayGame x = Check.gameOf("board 2;piece " + names[i] + " at 0 of 0;piece " + names[i + 1] + " at 0 of 0;");
+            for (int k = 0; k < names[i + 1].length(); k++) {
+                S.is("letter", x.letter(0, k), names[i].charAt(k));
+                S.is("letter of the second", x.letter(1, k), names[i + 1].charAt(k));
+            }
+        }
+    }
+
     private static void promise8NoneSuch() {
         S.promise(8, "NONE if there is none such, or for others.");
         SundayGame x = Check.gameOf("board 5;piece a at 1 of 0;" + "may a up 2 when all;".repeat(12));
@@ -151,6 +170,34 @@ public final class MovesBoundaryTest {
             S.is("way of " + place, x.rule(place, 3), ways[place]);
             S.is("N of " + place, x.rule(place, 4), steps[place]);
         }
+    }
+
+    private static void promise8AsItIsNow() {
+        S.term(8, "(may is not then, not is may, wins is loses, loses is wins)");
+        SundayGame x = Check.gameOf("board 5;piece a at 1 of 0;may a off when all;not a off when all;wins when all;loses when all;");
+        for (int place = 0; place < 4; place++) {
+            S.is("as told", x.rule(place, 1), place);
+            x.make(6 * place + 1);
+            S.is("turned about", x.rule(place, 1), place ^ 1);
+            S.is("its number stays", x.rule(place, 0), place);
+            x.make(6 * place + 1);
+            S.is("turned back", x.rule(place, 1), place);
+        }
+    }
+
+    private static void promise8Whether() {
+        S.promise(8, "5 whether it is struck, 6 whether it is ever");
+        SundayGame x = Check.gameOf("board 5;wins when all;ever wins when all;wins when all;");
+        int[] ever = {0, 1, 0};
+        for (int place = 0; place < 3; place++) {
+            S.is("not struck, " + place, x.rule(place, 5), 0);
+            S.is("ever, " + place, x.rule(place, 6), ever[place]);
+        }
+        x.make(12);
+        S.is("struck", x.rule(2, 5), 1);
+        S.is("not that", x.rule(0, 5), 0);
+        x.make(12);
+        S.is("put back", x.rule(2, 5), 0);
     }
 
     // ---- promise 9
@@ -250,6 +297,15 @@ public final class MovesBoundaryTest {
         lawful(x, 0, 1);
     }
 
+    private static void promise9InOrder() {
+        S.term(9, "MOVES of a POSITION, in the order of PIECES, then goals");
+        SundayGame x = Check.gameOf("board 4;piece a at 2 of 2;piece b at 1 of 2;may b off when all;may b up 2 when all;"
+            + "may b down 1 when all;may a off when all;may a up 1 when all;may a down 2 when all;may a down 1 when all;");
+        lawful(x, 2 * (5 * 2 + 1), 0, 1, 3, 4, 10, 13, 14);
+        SundayGame twice = Check.gameOf("board 4;piece a at 2 of 2;may a up 1 when all;may a up 1 when all;");
+        lawful(twice, 4, 3);
+    }
+
     private static void promise9NamesAhead() {
         S.term(9, "NAMES as it is ahead of the move");
         SundayGame x = Check.gameOf("board 4;piece a at 0 of 2;may a up 1 when a=0;may a up 2 when a=2;may a up 3 when a=spot;");
@@ -261,6 +317,46 @@ public final class MovesBoundaryTest {
         S.term(13, "(spot, goal, who as ahead; NAMES as it is now)");
         S.is("player 0 wins by it", y.value(0, 0), 1);
         S.is("player 1 does not", y.value(5, 0), 0);
+    }
+
+    private static void promise10NamesNow() {
+        S.term(10, "(spot, goal, who as ahead; NAMES as it is now) ends it: who moved has won, or lost");
+        String text = "board 4;piece a at 1 of 2;piece b at 2 of 2;may a up 2 when all;may b down 2 when all;stuck draws;wins when ";
+        SundayGame first = Check.gameOf(text + "a=3 and b=2 and spot=1 and goal=3 and who=0;");
+        first.move(0, 3);
+        S.is("the first moved", first.played(3), 0);
+        SundayGame second = Check.gameOf(text + "a=1 and b=0 and spot=2 and goal=0 and who=0;");
+        second.move(1, 0);
+        S.is("the second moved", second.played(3), 0);
+        SundayGame ahead = Check.gameOf(text + "b=2 or who=1;");
+        ahead.move(1, 0);
+        S.is("it is there no more, and 0 moved", ahead.played(3), NONE);
+        SundayGame off = Check.gameOf("board 4;piece a at 1 of 2;piece b at 2 of 2;may b off when all;wins when b=4 and goal=4;");
+        off.move(1, 4);
+        S.is("the second is off", off.played(3), 0);
+        SundayGame lost = Check.gameOf("board 4;piece a at 1 of 2;may a up 1 when all;loses when all;");
+        lost.sunday();
+        lost.move(0, 2);
+        S.is("1 moved and has lost", lost.played(3), 0);
+        S.is("the hat", lost.hat(), 0);
+    }
+
+    private static void promise10HighestPlaceEnds() {
+        S.term(10, "of RULES wins and loses that are not struck that with the highest PLACE whose TEST holds");
+        SundayGame x = Check.gameOf("board 4;piece a at 1 of 2;may a up 1 when all;wins when all;loses when all;wins when not all;");
+        x.move(0, 2);
+        S.is("loses is the highest that holds", x.played(3), 1);
+        x.make(12);
+        x.move(0, 2);
+        S.is("it is struck", x.played(3), 0);
+        x.make(12);
+        x.make(11);
+        x.move(0, 2);
+        S.is("wins is higher", x.played(3), 0);
+        x.make(6);
+        x.make(12);
+        x.move(0, 2);
+        S.is("both are struck", x.played(3), NONE);
     }
 
     private static void promise9Number() {
@@ -386,6 +482,7 @@ public final class MovesBoundaryTest {
         refused(x, 0, 10);
         refused(x, 2, -10);
         refused(x, 1, -9);
+        refused(x, 1, -1);
         refused(x, -1, 11);
         refused(x, -1, 20);
         refused(x, 0, 0);
@@ -442,6 +539,18 @@ public final class MovesBoundaryTest {
         Check.feed(x, codes);
         S.is("row of " + codes.length, x.row(), due);
         S.is("the tape goes", x.end(1), false);
+    }
+
+    private static void promise17Codes() {
+        S.promise(17, "by codes (PIECE times 10 and goal, a byte each; the tape, it goes) from THE BEGINNING");
+        SundayGame x = Check.gameOf("board 9;piece a at 0 of 0;piece b at 0 of 1;may a off when all;may b off when all;");
+        row(x, NONE, 9, 19);
+        row(x, 1, 9, 18);
+        row(x, 1, 9, 9);
+        row(x, 2, 9, 19, 9);
+        x.move(0, 9);
+        row(x, NONE, 9, 19);
+        row(x, 0, 19);
     }
 
     private static void promise17FirstNotLawful() {

@@ -135,6 +135,16 @@ public final class SumBoundaryTest {
         holds("not all", false);
         holds("not not all", true);
         holds("not [all and not all]", true);
+        holds("not 1<2", false);
+        holds("not 2<1", true);
+        holds("not 2>1", false);
+        holds("not 1>2", true);
+        holds("not 1=1", false);
+        holds("not 1=2", true);
+        holds("all and 1<2", true);
+        holds("all and 2>1", true);
+        holds("1=1 and all", true);
+        holds("1<2 and 2>1 and 1=1", true);
         holds("not all and not all or all", true);
         holds("all or all and not all", true);
         holds("[all or all] and not all", false);
@@ -142,6 +152,11 @@ public final class SumBoundaryTest {
 
     private static void promise13Parts() {
         S.term(13, "min ( SUM , SUM ) ; max ( SUM , SUM )");
+        holds("min(1,2)=2", false);
+        holds("max(1,2)=1", false);
+        holds("2=min(1,2)", false);
+        holds("1=max(1,2)", false);
+        holds("min(1,2)+max(1,2)=4", false);
         same("min(1,2)", "1");
         same("min(2,1)", "1");
         same("max(1,2)", "2");

@@ -23,8 +23,10 @@ public final class SundayBoundaryTest {
         promise27Now();
         promise27NowNotBetter();
         promise27Fair();
+        promise27OnTheNextSunday();
         promise27NoneSuch();
         promise28Below();
+        promise28OnTheNextSunday();
         promise28CannotBe();
         promise29FromNowOn();
         promise29WithinTwelve();
@@ -206,6 +208,26 @@ public final class SundayBoundaryTest {
         S.is("there is none", none.would(0), NONE);
     }
 
+    /** On Sunday 1 it is 0 who begins the next game. */
+    private static void promise27OnTheNextSunday() {
+        S.promise(27, "What a player, had it LOST on this SUNDAY, would do: the code");
+        SundayGame x = Check.gameOf("board 2;piece a at 0 of 2;ever may a up 1 when all;loses when who=0;wins when who=1;stuck draws;");
+        x.sunday();
+        x.kind(0, 1);
+        x.kind(1, 1);
+        S.is("0 begins then: turned about it wins", x.would(0), 7);
+        S.is("1 has it best already", x.would(1), NONE);
+        x.kind(0, 2);
+        x.kind(1, 2);
+        S.is("fair is fair", x.would(0), 6);
+        S.is("fair is fair", x.would(1), 6);
+        x.kind(0, 1);
+        x.kind(1, 1);
+        x.make(7);
+        S.is("now 0 has it best", x.would(0), NONE);
+        S.is("now 1 turns it about", x.would(1), 7);
+    }
+
     private static void promise27NoneSuch() {
         S.promise(27, "NONE for nothing; -2 if there is none such, or without FIELDS");
         SundayGame x = Check.gameOf(ONE_MOVE);
@@ -240,6 +262,32 @@ public final class SundayBoundaryTest {
         S.is("A 0, B 0, n 0", x.pays(0), 0);
         x.kind(0, 0);
         S.is("A 0, B -1, n 0", x.pays(0), 0);
+    }
+
+    private static void promise28OnTheNextSunday() {
+        S.promise(28, "A: what THE WORTH of the next SUNDAY's game is for it, when the other one has done what it would; B: when it "
+            + "has itself");
+        SundayGame x = Check.gameOf(ONE_MOVE);
+        x.sunday();
+        x.make(7);
+        S.is("1 begins now, 0 wins then: A -1, B -1", x.pays(0), 0);
+        x.kind(1, 1);
+        S.is("A -1, B 1", x.pays(0), 1);
+        S.is("A -1, B 1, n 1", x.pays(1), 0);
+        x.kind(0, 2);
+        S.is("A 0, B 1", x.pays(0), 1);
+        x.kind(1, 2);
+        S.is("A 0, B 0", x.pays(0), 0);
+        x.kind(0, 0);
+        S.is("A -1, B 0", x.pays(0), 1);
+        x.undo();
+        x.kind(0, 1);
+        x.kind(1, 0);
+        S.is("1 wins then as it is, but 0 turns it about: A -1, B 1", x.pays(0), 1);
+        x.kind(0, 2);
+        S.is("A 0, B 1", x.pays(0), 1);
+        x.kind(0, 0);
+        S.is("A 1, B 1", x.pays(0), 0);
     }
 
     private static void promise28CannotBe() {
@@ -403,6 +451,14 @@ public final class SundayBoundaryTest {
         far.spring();
         far.make(12);
         parts("behind sixteen moves", far, 16, 2 * (10 * 8 + 8));
+        SundayGame nought = Check.gameOf("board 3;piece a at 1 of 2;may a down 1 when a=1;may a up 2 when a=0;may a off when a=2;");
+        nought.sunday();
+        nought.spring();
+        nought.make(6);
+        parts("the position whose number is 0", nought, 1, 0);
+        nought.undo();
+        nought.make(12);
+        parts("behind the position whose number is 0", nought, 2, 5);
     }
 
     /** To 3 by up 3 first, to 1 by up 1 later: the number counts, not the way there. */

@@ -24,6 +24,8 @@ public final class TapeBoundaryTest {
         promise4NoChanges();
         promise4NoSpring();
         promise4RefusalsStay();
+        promise4NothingOfTheOldGame();
+        promise4NothingOfTheFaultyText();
         promise5Latest();
         promise5AheadOfAny();
         promise5OtherWhat();
@@ -340,6 +342,54 @@ public final class TapeBoundaryTest {
         x.game();
         for (int what = 0; what <= 5; what++) {
             S.is("with a fault, " + what, x.status(what), what == 1 ? 2 : 1);
+        }
+    }
+
+    /** Slates of like numbers, of which one wins and the other one loses. */
+    private static void promise4NothingOfTheOldGame() {
+        S.promise(4, "The tape (it goes) is THE GAME");
+        String head = "board 4;piece a at 0 of 2;piece b at 3 of 2;may a up 1 when a=0;";
+        SundayGame x = Check.gameOf(head + "wins when a=1;stuck wins;");
+        for (int i = 0; i < 4; i++) {
+            Check.feed(x, head + "loses when a=1;stuck wins;");
+            S.is("loses, statements", x.game(), 6);
+            S.is("loses, worth", x.worth(), -1);
+            S.is("loses, outcome of the last turned about", x.outcome(7), 1);
+            S.is("loses, ring", x.ring(2, 0), 2);
+            S.is("loses, kind of the rule", x.rule(1, 1), 3);
+            Check.feed(x, head + "wins when a=1;");
+            S.is("wins, statements", x.game(), 5);
+            S.is("wins, worth", x.worth(), 1);
+            S.is("wins, outcome of the last turned about", x.outcome(7), -1);
+            S.is("wins, what stuck does", x.has(7), 0);
+            Check.feed(x, "board 4;piece a at 3 of 2;may a down 3 when a=3;wins when a=0;may a off when all;");
+            S.is("another, statements", x.game(), 5);
+            S.is("another, positions", x.has(4), 10);
+            S.is("another, moves", x.lawful(6, SundayGame.NONE), 2);
+            S.is("another, N of wins", x.rule(1, 4), 0);
+            S.is("another, N of off", x.rule(2, 4), 0);
+            Check.feed(x, "board 4;wins when not all;piece a at 3 of 2;may a off when all;may a down 2 when not all;");
+            S.is("a last one, statements", x.game(), 5);
+            S.is("a last one, moves", x.lawful(6, SundayGame.NONE), 1);
+            S.is("a last one, N of wins", x.rule(0, 4), 0);
+            S.is("a last one, N of off", x.rule(1, 4), 0);
+        }
+    }
+
+    private static void promise4NothingOfTheFaultyText() {
+        S.promise(4, "NONE with a FAULT (all stays");
+        String head = "board 9;piece a at 0 of 2;piece b at 3 of 2;";
+        SundayGame x = new SundayGame();
+        for (int i = 0; i < 4; i++) {
+            Check.feed(x, head + "wins when all;".repeat(12) + "stuck wins;!");
+            S.is("of twelve rules and two pieces", x.game(), NONE);
+            Check.feed(x, head + "wins when all;".repeat(12));
+            S.is("twelve rules and two pieces anew", x.game(), 15);
+            S.is("stuck loses without", x.has(7), 0);
+            Check.feed(x, head + "wins when " + "[".repeat(8));
+            S.is("of eight open brackets", x.game(), NONE);
+            Check.feed(x, head + "wins when " + "[".repeat(8) + "all" + "]".repeat(8) + ";");
+            S.is("eight open brackets anew", x.game(), 4);
         }
     }
 

@@ -6,6 +6,8 @@ public final class TextBoundaryTest {
         "not", "up", "down", "off", "when", "or", "and", "all", "spot", "goal", "who", "min", "max"};
 
     public static void main(String[] args) {
+        promise4Statements();
+        promise4FullTape();
         promise4Words();
         promise4Numbers();
         promise4Blanks();
@@ -19,9 +21,14 @@ public final class TextBoundaryTest {
         promise4TwelveRules();
         promise4LastStuckCounts();
         promise4Steps();
+        promise4Rules();
         promise4OwnWords();
+        promise4UnlikeNames();
+        promise4ToldAhead();
         promise4TestForms();
+        promise4Facts();
         promise5FirstAlongTheText();
+        promise5NoGameGoesOn();
         promise5WholeAtFirstByte();
         promise5EndsTooSoon();
         promise5SeventhLetter();
@@ -64,6 +71,30 @@ public final class TextBoundaryTest {
     }
 
     // ---- the text
+
+    private static void promise4Statements() {
+        S.term(4, "{ STATEMENT ; }");
+        good("board 5;stuck wins;", 2);
+        badAt("board 5;^;", 1);
+        badAt("board 5;^;stuck wins;", 1);
+        badAt("board 5 ^stuck wins;", 1);
+        badAt("board 5;stuck wins ^stuck wins;", 1);
+        badAt("board 5;stuck wins^,", 1);
+        bad("board 5;stuck wins", 1, 18);
+    }
+
+    /** The longest sum that there is room for. */
+    private static void promise4FullTape() {
+        S.term(4, "THE GAME is a text");
+        String head = "board 3;piece a at 0 of 2;may a up 1 when all;stuck draws;wins when ";
+        String sum = "1" + "+1".repeat((1800 - head.length() - 6) / 2);
+        int ones = (sum.length() + 1) / 2;
+        String text = head + sum + "=" + ones + ";";
+        text += " ".repeat(1800 - text.length());
+        S.is("it wins", good(text, 5).worth(), 1);
+        S.is("it does not", good(text.replace("=" + ones, "=" + (ones - 1)), 5).worth(), 0);
+        badAt(text.substring(0, 1799) + "^!", 1);
+    }
 
     private static void promise4Words() {
         S.term(4, "WORDS (1 to 6 letters a .. z)");
@@ -212,6 +243,28 @@ public final class TextBoundaryTest {
         badAt(HEAD + "may fox ^1 when all;", 1);
     }
 
+    private static void promise4Rules() {
+        S.term(4, "RULE: may MOVE when TEST; not MOVE when TEST; wins when TEST; loses when TEST.");
+        good(HEAD + "may fox up 1 when all;not fox off when all;wins when all;loses when all;", 7);
+        good(HEAD + "ever may fox up 1 when all;ever not fox off when all;ever wins when all;ever loses when all;", 7);
+        badAt(HEAD + "may fox ^when all;", 1);
+        badAt(HEAD + "may ^when all;", 1);
+        badAt(HEAD + "may fox up 1^;", 1);
+        badAt(HEAD + "may fox off ^all;", 1);
+        badAt(HEAD + "wins^;", 1);
+        badAt(HEAD + "wins ^all;", 1);
+        badAt(HEAD + "loses ^fox off when all;", 1);
+        badAt(HEAD + "ever^;", 1);
+        badAt(HEAD + "ever ^fox;", 1);
+        badAt(HEAD + "ever ^stuck wins;", 1);
+        badAt(HEAD + "ever ^piece fox at 0 of 0;", 1);
+        badAt(HEAD + "ever ^ever wins when all;", 1);
+        badAt(HEAD + "^draws when all;", 1);
+        badAt(HEAD + "stuck ^may;", 1);
+        badAt(HEAD + "stuck^;", 1);
+        badAt(HEAD + "stuck wins ^when all;", 1);
+    }
+
     private static void promise4OwnWords() {
         S.term(4, "OWN WORDS, which no NAME is");
         for (String word : OWN) {
@@ -220,6 +273,36 @@ public final class TextBoundaryTest {
             good("board 5;piece " + near + " at 1 of 0;may " + near + " up 1 when " + near + "=1;", 3);
         }
         good("board 5;piece boar at 1 of 0;piece al at 1 of 0;wins when boar=al;", 4);
+    }
+
+    private static void promise4UnlikeNames() {
+        S.term(4, "NAMES are unlike ones");
+        badAt("board 5;piece fox at 1 of 0;piece ^fox at 2 of 1;", 2);
+        SundayGame x = good("board 5;piece fox at 1 of 2;piece foxy at 2 of 2;may foxy up 1 when foxy=2;may fox up 1 when fox=1;",
+            5);
+        S.is("of the second", x.rule(0, 2), 1);
+        S.is("of the first", x.rule(1, 2), 0);
+        S.is("both may", x.lawful(x.played(0), SundayGame.NONE), 2);
+    }
+
+    private static void promise4ToldAhead() {
+        S.term(4, "each told ahead of where it is asked");
+        good("board 5;piece fox at 1 of 0;may fox up 1 when fox=1;piece hen at 1 of 0;may hen up 1 when hen=fox;", 5);
+        badAt("board 5;may ^fox up 1 when all;piece fox at 1 of 0;", 3);
+        badAt("board 5;piece fox at 1 of 0;may fox up 1 when ^hen=1;piece hen at 1 of 0;", 3);
+    }
+
+    private static void promise4Facts() {
+        S.term(4, "FACT: not FACT; [ TEST ] ; all;");
+        good(HEAD + "wins when not not not all;", 4);
+        good(HEAD + "wins when not [not [not all]];", 4);
+        good(HEAD + "wins when not 1=1 and not 2=2 or not 3=3;", 4);
+        good(HEAD + "wins when all and all or all and all;", 4);
+        badAt(HEAD + "wins when all ^not all;", 1);
+        badAt(HEAD + "wins when all ^all;", 1);
+        badAt(HEAD + "wins when all or ^or all;", 1);
+        badAt(HEAD + "wins when all and not ^and all;", 1);
+        badAt(HEAD + "wins when [all] ^[all];", 1);
     }
 
     private static void promise4TestForms() {
@@ -262,6 +345,31 @@ public final class TextBoundaryTest {
         badAt(HEAD + "wins when ^cow=1 dog=1;", 3);
         badAt(rules(12) + "^may cow up 9 when all;", 5);
         badAt("board 5;piece fox at 1 of 0;piece ^fox at 9 of 9;", 2);
+    }
+
+    private static void promise5NoGameGoesOn() {
+        S.term(5, "1 the first byte with which no GAME goes on");
+        badAt("^5", 1);
+        badAt("^;", 1);
+        badAt("board ^;", 1);
+        badAt("board ^board 5;", 1);
+        badAt("board 5^,", 1);
+        badAt("board 5;^(", 1);
+        badAt("board 5;piece ^;", 1);
+        badAt("board 5;piece fox ^1 of 0;", 1);
+        badAt("board 5;piece fox at ^fox of 0;", 1);
+        badAt("board 5;piece fox at 1 ^at 0;", 1);
+        badAt("board 5;piece fox at 1 of ^fox;", 1);
+        badAt("board 5;piece fox at 1 of 0 ^0;", 1);
+        badAt(HEAD + "may ^up 1 when all;", 1);
+        badAt(HEAD + "may fox ^fox up 1 when all;", 1);
+        badAt(HEAD + "may fox up ^fox when all;", 1);
+        badAt(HEAD + "wins when 1 ^1;", 1);
+        badAt(HEAD + "wins when 1=1 ^1;", 1);
+        badAt(HEAD + "wins when fox ^hen;", 1);
+        badAt(HEAD + "wins when fox ^and hen;", 1);
+        badAt(HEAD + "wins when 1=1^);", 1);
+        badAt(HEAD + "wins when spot^(1);", 1);
     }
 
     private static void promise5WholeAtFirstByte() {

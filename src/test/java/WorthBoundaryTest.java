@@ -15,6 +15,7 @@ public final class WorthBoundaryTest {
         promise13BestOfWon();
         promise13BestOfDrawn();
         promise13BestOfLost();
+        promise13ToPositionNought();
         promise13WithoutMove();
         promise13NoneSuch();
         promise14WithoutFields();
@@ -114,6 +115,18 @@ public final class WorthBoundaryTest {
         value(later, 0, -1, 2, 2);
         SundayGame stuck = Check.gameOf("board 4;piece a at 0 of 2;may a up 1 when a=0;may a up 2 when a=0;loses when a=2;stuck wins;");
         value(stuck, 0, -1, 1, 1);
+    }
+
+    /** By the only move of 1 it comes to the position whose number is 0, where 0 wins by going off. */
+    private static void promise13ToPositionNought() {
+        S.term(13, "Its number: of PIECES 0, 1, .. in order");
+        SundayGame x = Check.gameOf("board 3;piece a at 2 of 2;may a down 1 when all;may a off when a=0;");
+        value(x, 0, 1, 1, 3);
+        value(x, 3, -1, 2, 0);
+        value(x, 4, 1, 3, 1);
+        S.is("three moves", x.longest(), 3);
+        S.is("0 wins within three", x.likely(3), SURE);
+        S.is("not within two", x.likely(2), 0);
     }
 
     private static void promise13WithoutMove() {
