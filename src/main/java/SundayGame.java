@@ -644,10 +644,11 @@ public final class SundayGame {
         private static final int ROOM = TAPE_ROOM + 1;
 
         private final int[] ownCodes = new int[OWN_COUNT];
-        private final int[] types = new int[ROOM];
-        private final int[] places = new int[ROOM];
-        private final int[] contents = new int[ROOM];
-        private int count = 0;
+        final int[] types = new int[ROOM];
+        final int[] places = new int[ROOM];
+        /** A number, or a word packed into one: of words, too, no two unlike ones have the same. */
+        final int[] contents = new int[ROOM];
+        int count = 0;
         private int next = 0;
 
         Tokens() {
@@ -663,23 +664,6 @@ public final class SundayGame {
                     k++;
                 }
             }
-        }
-
-        int typeOf(int k) {
-            return k >= 0 && k < count ? types[k] : BAD;
-        }
-
-        int placeOf(int k) {
-            return k >= 0 && k < count ? places[k] : NONE;
-        }
-
-        /** A number, or a word packed into one: of words, too, no two unlike ones have the same. */
-        int contentOf(int k) {
-            return k >= 0 && k < count ? contents[k] : 0;
-        }
-
-        int last() {
-            return count - 1;
         }
 
         void cut(Bytes tape) {
@@ -820,11 +804,15 @@ public final class SundayGame {
         }
 
         private int type() {
-            return tokens.typeOf(cursor);
+            return cursor >= 0 && cursor < tokens.count ? tokens.types[cursor] : Tokens.BAD;
+        }
+
+        private int content() {
+            return cursor >= 0 && cursor < tokens.count ? tokens.contents[cursor] : 0;
         }
 
         private void step() {
-            if (cursor < tokens.last()) {
+            if (cursor + 1 < tokens.count) {
                 cursor++;
             }
         }
@@ -833,9 +821,9 @@ public final class SundayGame {
         private void fail(int kindOfFault) {
             if (faultKind == 0) {
                 faultKind = kindOfFault;
-                faultPlace = tokens.placeOf(cursor);
+                faultPlace = cursor >= 0 && cursor < tokens.count ? tokens.places[cursor] : NONE;
             }
-            cursor = tokens.last();
+            cursor = tokens.count - 1;
         }
 
         private void take(int wanted) {
@@ -847,7 +835,7 @@ public final class SundayGame {
         }
 
         private int takeNumber(int least, int most) {
-            int number = tokens.contentOf(cursor);
+            int number = content();
             if (type() != Tokens.NUMBER) {
                 fail(BAD_TEXT);
             } else if (number < least || number > most) {
@@ -882,7 +870,7 @@ public final class SundayGame {
                 fail(TOO_MANY);
             }
             take(Tokens.PIECE);
-            int name = tokens.contentOf(cursor);
+            int name = content();
             if (type() == Tokens.NAME && game.pieceNamed(name) != NONE) {
                 fail(NAME_TWICE);
             }
@@ -964,11 +952,14 @@ public final class SundayGame {
         }
 
         private int takeNameOfPiece() {
-            int piece = game.pieceNamed(tokens.contentOf(cursor));
-            if (type() == Tokens.NAME && piece == NONE) {
+            int piece = game.pieceNamed(content());
+            if (type() != Tokens.NAME) {
+                fail(BAD_TEXT);
+            } else if (piece == NONE) {
                 fail(NO_PIECE);
+            } else {
+                step();
             }
-            take(Tokens.NAME);
             return piece;
         }
 
@@ -1001,12 +992,21 @@ public final class SundayGame {
             if (type() == '[') {
                 openBracket('[');
                 readTest();
-                closeBracket(']');
+                take(']');
+                openBrackets--;
             } else if (type() == Tokens.ALL) {
                 step();
                 game.tests.emit(1);
             } else {
-                readComparison();
+                readSum();
+                int op = comparisonTold();
+                if (op == NONE) {
+                    fail(BAD_TEXT);
+                } else {
+                    step();
+                    readSum();
+                    game.tests.emit(op);
+                }
             }
             if (denied) {
                 game.tests.emit(Tests.NOT);
@@ -1014,28 +1014,14 @@ public final class SundayGame {
         }
 
         private void openBracket(int sign) {
-            if (type() == sign && openBrackets == BRACKET_ROOM) {
-                fail(TOO_MANY);
-            }
-            take(sign);
-            openBrackets++;
-        }
-
-        private void closeBracket(int sign) {
-            take(sign);
-            openBrackets--;
-        }
-
-        private void readComparison() {
-            readSum();
-            int op = comparisonTold();
-            if (op == NONE) {
+            if (type() != sign) {
                 fail(BAD_TEXT);
-                return;
+            } else if (openBrackets >= BRACKET_ROOM) {
+                fail(TOO_MANY);
+            } else {
+                step();
             }
-            step();
-            readSum();
-            game.tests.emit(op);
+            openBrackets++;
         }
 
         private int comparisonTold() {
@@ -1081,10 +1067,11 @@ public final class SundayGame {
                 case '(':
                     openBracket('(');
                     readSum();
-                    closeBracket(')');
+                    take(')');
+                    openBrackets--;
                     break;
                 case Tokens.NUMBER:
-                    game.tests.emit(tokens.contentOf(cursor));
+                    game.tests.emit(content());
                     step();
                     break;
                 case Tokens.SPOT:
@@ -1120,7 +1107,8 @@ public final class SundayGame {
             readSum();
             take(',');
             readSum();
-            closeBracket(')');
+            take(')');
+            openBrackets--;
             game.tests.emit(op);
         }
     }

@@ -136,6 +136,10 @@ public final class MovesBoundaryTest {
                 S.is("letter", x.letter(0, k), names[i].charAt(k));
                 S.is("letter of the second", x.letter(1, k), names[i + 1].charAt(k));
             }
+            for (int k = 6; k < 40; k++) {
+                S.is("none behind six", x.letter(0, k), NONE);
+                S.is("none ahead", x.letter(0, 5 - k), NONE);
+            }
         }
     }
 

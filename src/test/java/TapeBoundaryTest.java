@@ -25,6 +25,8 @@ public final class TapeBoundaryTest {
         promise4NoSpring();
         promise4RefusalsStay();
         promise4NothingOfTheOldGame();
+        promise4NothingOfTheOldTests();
+        promise4NothingOfTheOldSundays();
         promise4NothingOfTheFaultyText();
         promise5Latest();
         promise5AheadOfAny();
@@ -373,6 +375,39 @@ public final class TapeBoundaryTest {
             S.is("a last one, moves", x.lawful(6, SundayGame.NONE), 1);
             S.is("a last one, N of wins", x.rule(0, 4), 0);
             S.is("a last one, N of off", x.rule(1, 4), 0);
+        }
+    }
+
+    /** Each text twice, and as often again, as there may be more than one place where a game is held. */
+    private static void promise4NothingOfTheOldTests() {
+        S.promise(4, "The tape (it goes) is THE GAME");
+        SundayGame x = new SundayGame();
+        for (int i = 0; i < 12; i++) {
+            int field = i / 2 % 3;
+            Check.feed(x, "board 4;piece a at 0 of 2;may a up 1 when a=" + field + ";wins when a=" + (field + 1) + ";stuck draws;");
+            x.game();
+            for (int at = 0; at < 3; at++) {
+                S.is("moves of " + at, x.lawful(2 * at, SundayGame.NONE), at == field ? 1 : 0);
+                S.is("worth of " + at, x.value(2 * at, 0), at == field ? 1 : 0);
+            }
+            S.is("the worth", x.worth(), field == 0 ? 1 : 0);
+        }
+    }
+
+    private static void promise4NothingOfTheOldSundays() {
+        S.promise(4, "The tape (it goes) is THE GAME");
+        SundayGame x = new SundayGame();
+        for (int i = 0; i < 3; i++) {
+            Check.feed(x, "board 3;piece a at 0 of 2;ever may a up 1 when all;wins when who=0;loses when a=0;");
+            x.game();
+            x.kind(0, 1);
+            x.kind(1, 1);
+            S.is("a ring at once", x.ring(12, 1), 0);
+            Check.feed(x, "board 3;piece a at 1 of 2;ever may a up 1 when who=1;wins when who=1;wins when a=1;");
+            x.game();
+            x.kind(0, 1);
+            x.kind(1, 1);
+            S.is("a ring after one Sunday", x.ring(12, 1), 1);
         }
     }
 
