@@ -36,6 +36,7 @@ public final class MovesBoundaryTest {
         promise10Anew();
         promise11NotLawful();
         promise11WhenOver();
+        promise12TheBeginningAgain();
         promise12HowMany();
         promise17Codes();
         promise17FirstNotLawful();
@@ -519,6 +520,21 @@ public final class MovesBoundaryTest {
         refused(lost, 0, 2);
         lost.anew();
         S.is("not over any more", lost.move(0, 1), true);
+    }
+
+    private static void promise12TheBeginningAgain() {
+        S.promise(12, "PLAYED is THE BEGINNING again.");
+        SundayGame x = playedOut();
+        x.make(0);
+        x.undo();
+        x.move(0, 1);
+        x.anew();
+        state(x, at(0, 3, 0), 0, 0, NONE);
+        S.is("it goes on from there", x.move(0, 1), true);
+        SundayGame over = playedOut();
+        over.anew();
+        S.is("it is over no more", over.move(0, 1), true);
+        S.is("and can be played again", over.played(3), NONE);
     }
 
     private static void promise12HowMany() {

@@ -32,6 +32,7 @@ public final class SundayBoundaryTest {
         promise29WithinTwelve();
         promise29NoneByThen();
         promise29AllStays();
+        promise30AsItIsNow();
         promise30HowMany();
         promise31First();
         promise31ThenByNumber();
@@ -416,6 +417,28 @@ public final class SundayBoundaryTest {
     }
 
     // ---- promises 30 and 31
+
+    private static void promise30AsItIsNow() {
+        S.promise(30, "THE SLATE as it is now is kept as that of the spring");
+        SundayGame x = Check.gameOf("board 9;piece a at 0 of 2;may a up 1 when all;may a up 2 when a=0;");
+        x.spring();
+        x.make(0);
+        S.is("up 1 has gone since", x.parts(0), 0);
+        x.spring();
+        S.is("it is kept anew", x.parts(0), NONE);
+        x.undo();
+        S.is("up 1 was not there then", x.parts(0), 0);
+        x.make(0);
+        x.sunday();
+        S.is("Sundays leave it as it is", x.parts(0), NONE);
+        int[] image = Check.imageOf(x);
+        x.make(0);
+        Check.feed(x, image);
+        S.is("an image is taken", x.on(), true);
+        S.is("and leaves it as it is", x.parts(0), NONE);
+        x.make(0);
+        S.is("it is there still", x.parts(0), 0);
+    }
 
     private static void promise30HowMany() {
         S.promise(30, "how many RULES it has");
