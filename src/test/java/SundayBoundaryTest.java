@@ -359,6 +359,9 @@ public final class SundayBoundaryTest {
         ring("of four", four, 4, 4, 0);
         four.sunday();
         ring("of four, on the way", four, 4, 4, 0);
+        int[] found = firstLike(four);
+        S.is("of four, by Sundays, the one that is like", found[0], 4);
+        S.is("of four, by Sundays, the one ahead", found[1], 0);
     }
 
     /** Rings that are found after twelve Sundays and not ahead of that. */
